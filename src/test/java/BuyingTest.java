@@ -119,6 +119,15 @@ public final class BuyingTest {
         DUE.is("15 n of nothing", x.two(0, 2, 1, 0), 0);
         DUE.is("15 nothing", x.two(0, 2, 1, 1), 0);
         DUE.all("15 changes nothing", Due.has(x, 0), "3 2");
+        UnlikeCoins rich = new UnlikeCoins();
+        for (int s = 0; s < 6; s++) {
+            rich.sort(1, 1, 1);
+        }
+        Due.purse(rich, 99, 99, 99, 99, 99, 99);
+        rich.force(Due.text(rich, "worth price*price;fee 1;wage 1;"));
+        DUE.is("15 n as far as can be", rich.two(0, 2, 1, 0), 297);
+        DUE.is("15 that as far as can be", rich.two(0, 2, 1, 1), 4 * 297);
+        DUE.is("13 all one by one", rich.often(0, 1, 0), 594);
     }
 
     private static void price() {

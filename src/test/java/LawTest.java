@@ -11,6 +11,7 @@ public final class LawTest {
         faults();
         whatIsOpen();
         tapeBehindText();
+        longTexts();
         values();
         bounds();
         laws();
@@ -145,6 +146,15 @@ public final class LawTest {
         fault("worth (1;", 8);
         fault("worth 1);", 7);
         fault("worth ();", 7);
+        fault("worth 1 ; fee 1 ; wage 1 ; 5", 27);
+        fault("worth 1 or ;", 11);
+        fault("worth 1 and ;", 12);
+        fault("worth 1 + ;", 10);
+        fault("worth 1 < ;", 10);
+        fault("worth not ;", 10);
+        fault("worth (xy);", 7);
+        fault("xorth 1;", 0);
+        fault("worth xold;", 6);
     }
 
     private static void whatIsOpen() {
@@ -186,6 +196,20 @@ public final class LawTest {
         }
         x.force(0);
         DUE.is("4 so does the first", x.asks(0, 0, 0, 4), 8);
+    }
+
+    private static void longTexts() {
+        UnlikeCoins x = new UnlikeCoins();
+        for (int t = 1; t <= 5; t++) {
+            String text = "worth 0" + ("+" + t).repeat(20) + ";fee 0" + "-1".repeat(20) + "+" + t + "0;wage " + t + ";";
+            DUE.is("4 a long text", Due.text(x, text), t);
+        }
+        for (int t = 1; t <= 5; t++) {
+            x.force(t);
+            DUE.is("6 a long worth", x.asks(0, 0, 0, 0), Math.min(99, 20 * t));
+            DUE.is("6 a long fee", x.asks(1, 0, 0, 0), Math.max(0, 10 * t - 20));
+            DUE.is("6 a short wage", x.asks(2, 0, 0, 0), t);
+        }
     }
 
     private static void value(String e, int want) {

@@ -58,6 +58,8 @@ public final class LotsTest {
         Due.purse(x, 1);
         DUE.is("33 one", x.mean(0, 11, 1, 0), 1);
         DUE.is("33 one, below", x.mean(0, 11, 1, 1), 1);
+        DUE.is("33 of just one", x.mean(0, 1, 1, 0), 1);
+        DUE.is("33 of just five", x.mean(0, 5, 1, 0), 1);
         DUE.is("33 of twelve", x.mean(0, 12, 1, 0), 11);
         DUE.is("33 of twelve, below", x.mean(0, 12, 1, 1), 12);
         DUE.is("33 lowest terms", x.mean(9, 4, 1, 0), 1);
@@ -116,6 +118,17 @@ public final class LotsTest {
         x.set(0, 0, 9);
         x.back();
         DUE.is("35 by the new one", x.of(0, 0), 3);
+        x.pass();
+        Due.text(x, "worth 1;fee 1;wage 1;");
+        x.force(1);
+        x.image();
+        x.pass();
+        x.force(0);
+        x.back();
+        DUE.is("35 the year then", x.count(2), 1);
+        DUE.is("35 the law then", x.count(4), 1);
+        x.set(0, 0, 3);
+        x.image();
         x.set(0, 0, 8);
         DUE.is("35 again", x.back(), 1);
         DUE.is("35 as it was", x.of(0, 0), 3);

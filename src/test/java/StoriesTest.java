@@ -107,7 +107,8 @@ public final class StoriesTest {
         DUE.is("30 twelve, no more", x.cell(0, 12, 0), -12);
         DUE.is("30 fewer", x.film(1, 0, 2), 2);
         DUE.is("30 two, no more", x.cell(1, 2, 0), -12);
-        DUE.is("30 ints", x.copy(1, 0, 0, 0, 1), 1);
+        Due.sheet(x, 2, 7);
+        DUE.is("30 ints", x.copy(1, 0, 2, 0, 1), 1);
         DUE.is("30 none", x.film(1, 1, 0), 0);
         DUE.is("30 a row of none", x.cell(1, 0, 0), -12);
         DUE.is("30 sheet below", x.film(-1, 9, 99), -2);
