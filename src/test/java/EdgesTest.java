@@ -43,34 +43,37 @@ public final class EdgesTest {
         sections.forEach((section, words) -> unnamed.put(section, new StringBuilder(words)));
         int wrong = 0;
         for (Edges.Sentence sentence : e.sentences()) {
-            String words = sections.getOrDefault(sentence.section(), "");
-            int at = words.indexOf(sentence.words());
+            int at = sections.getOrDefault(sentence.section(), "").indexOf(sentence.words());
             if (at < 0) {
                 wrong++;
                 System.out.println("promise " + sentence.promise() + " has no such sentence: " + sentence.words());
-            }
-            for (int i = Math.max(at, 0); at >= 0 && i < at + sentence.words().length(); i++) {
-                unnamed.get(sentence.section()).setCharAt(i, '_');
+            } else {
+                int end = at + sentence.words().length();
+                unnamed.get(sentence.section()).replace(at, end, "_".repeat(end - at));
             }
         }
         for (Map.Entry<Integer, StringBuilder> section : unnamed.entrySet()) {
-            Matcher m = BOUNDARY.matcher(section.getValue());
-            while (m.find()) {
-                wrong++;
-                String near = section.getValue().substring(Math.max(0, m.start() - 40), Math.min(section.getValue().length(), m.end() + 40));
-                System.out.println("no test names \"" + m.group() + "\" of section " + section.getKey() + ": .. " + near + " ..");
-            }
+            wrong += boundariesIn(section.getKey(), section.getValue().toString());
         }
         return wrong;
+    }
+
+    private static int boundariesIn(int section, String unnamed) {
+        int found = 0;
+        Matcher m = BOUNDARY.matcher(unnamed);
+        while (m.find()) {
+            found++;
+            String near = unnamed.substring(Math.max(0, m.start() - 40), Math.min(unnamed.length(), m.end() + 40));
+            System.out.println("no test names \"" + m.group() + "\" of section " + section + ": .. " + near + " ..");
+        }
+        return found;
     }
 
     /** The words of "Terms" (0, with the sentence on 512 calls) and of each promise, each on one line. */
     private static Map<Integer, String> sections(String document) {
         String plain = document.replaceAll("```\\w*|======== \\d", " ").replaceAll("\\s+", " ");
         Map<Integer, String> found = new TreeMap<>();
-        String terms = between(plain, "## Terms", "Ahead of the calls");
-        found.put(0, between(plain, "An object is used", "## The public face").isEmpty() ? terms
-            : "An object is used" + between(plain, "An object is used", "## The public face") + terms);
+        found.put(0, between(plain, "images. ", "## The public face") + between(plain, "## Terms", "Ahead of the calls"));
         for (int promise = 1; promise <= 40; promise++) {
             String next = promise < 40 ? "## Promise " + (promise + 1) + ":" : "## Not promised";
             String whole = between(plain, "## Promise " + promise + ":", next);
