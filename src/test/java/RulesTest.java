@@ -31,6 +31,10 @@ public final class RulesTest {
             }
         }
         DUE.is("rule 1 the face", open.size(), 39);
+        for (Method m : UnlikeCoins.class.getDeclaredMethods()) {
+            DUE.is("rule 1 another name: " + m.getName(), Modifier.isPrivate(m.getModifiers())
+                && open.contains(m.getName()) ? 1 : 0, 0);
+        }
         for (Field f : UnlikeCoins.class.getDeclaredFields()) {
             boolean constant = List.of("NONE", "BAD", "STATE", "FULL", "NO").contains(f.getName());
             DUE.is("rule 1 " + f.getName(), Modifier.isPublic(f.getModifiers()) ? 1 : 0, constant ? 1 : 0);
